@@ -47,7 +47,10 @@ public final class QueueDrive {
 
     public int queues() {
         int wrong = wrongQueueSign();
-        int answer = wrong >= 0 ? -1 - wrong : openQueue();
+        int answer = -1 - wrong;
+        if (wrong == NONE) {
+            answer = drive.open(text.digit(0), text.digit(1), rankOf(text.at(2)), text.size > 3);
+        }
         text.clear();
         if (answer >= 0) {
             past.forget();
@@ -66,7 +69,7 @@ public final class QueueDrive {
 
     public int queue(int queue, int what) throws NoSuchElementException {
         Lane lane = drive.lane(queue);
-        if (lane == null || what < 0 || what > 12) {
+        if (lane == null || what < 0 || what >= Lane.DETAILS) {
             throw new NoSuchElementException("no such queue or number of it");
         }
         return lane.detail(what);
@@ -127,9 +130,11 @@ public final class QueueDrive {
         past.note(drive);
         int done = 0;
         boolean refused = false;
-        for (int p = 0; p < text.size && !refused; p += lengthOfAct(p)) {
+        int p = 0;
+        for (int i = 0; i < Text.LONGEST && p < text.size && !refused; i++) {
             refused = act(p) < 0;
             done += refused ? 0 : 1;
+            p += lengthOfAct(p);
         }
         past.seal(done > 0 ? done : NONE);
         told.tell(refused ? 1 : 0, drive.tick);
@@ -231,7 +236,7 @@ public final class QueueDrive {
         trial.copy(drive);
         int answer = trial.drain(inForce);
         if (answer >= 0) {
-            told.tell(trial.takenInAll() - drive.takenInAll(), trial.heldInAll());
+            told.tell(trial.sum(Lane.TAKEN) - drive.sum(Lane.TAKEN), trial.heldInAll());
         }
         return answer;
     }
@@ -328,8 +333,8 @@ public final class QueueDrive {
         for (int i = 0; i < n; i++) {
             trial.live(draws, inForce, told);
         }
-        told.tell(trial.fetchedInAll() - drive.fetchedInAll(), trial.heldInAll(), trial.tick);
-        return trial.takenInAll() - drive.takenInAll();
+        told.tell(trial.sum(Lane.FETCHED) - drive.sum(Lane.FETCHED), trial.heldInAll(), trial.tick);
+        return trial.sum(Lane.TAKEN) - drive.sum(Lane.TAKEN);
     }
 
     // ---- kept
@@ -348,7 +353,7 @@ public final class QueueDrive {
             case 1: return drive.inRings();
             case 2: return drive.runs;
             case 3: return drive.boxed;
-            case 4: return drive.postedInAll() - drive.takenInAll();
+            case 4: return drive.sum(Lane.POSTED) - drive.sum(Lane.TAKEN);
             case 5: return drive.tick;
             case 6: return drive.atOnce;
             case 7: return drive.heldInAll();
@@ -393,13 +398,6 @@ public final class QueueDrive {
             case 'l': return 3;
             default: return NONE;
         }
-    }
-
-    private int openQueue() {
-        if (drive.many >= MOST_QUEUES) {
-            return QUEUES_ARE_FULL;
-        }
-        return drive.open(text.digit(0), text.digit(1), rankOf(text.at(2)), text.size > 3);
     }
 
     /** Where THE TEXT fails to tell A DAY, or NONE. */
@@ -848,6 +846,12 @@ public final class QueueDrive {
     /** A QUEUE. Its rings have 8 slots and places to fill: a count's lowest three bits are where it stands. */
     private static final class Lane {
         private static final int PLACE = 7;
+        // what queue() calls them
+        private static final int DETAILS = 13;
+        private static final int WRITTEN = 4;
+        private static final int FETCHED = 7;
+        private static final int POSTED = 9;
+        private static final int TAKEN = 10;
 
         private int slots;
         private int places;
@@ -906,13 +910,13 @@ public final class QueueDrive {
                 case 1: return places;
                 case 2: return rank;
                 case 3: return shadowed ? 1 : 0;
-                case 4: return written;
+                case WRITTEN: return written;
                 case 5: return rung;
                 case 6: return seen;
-                case 7: return fetched;
+                case FETCHED: return fetched;
                 case 8: return told;
-                case 9: return posted;
-                case 10: return taken;
+                case POSTED: return posted;
+                case TAKEN: return taken;
                 case 11: return mark;
                 default: return awake ? 1 : 0;
             }
@@ -1143,18 +1147,16 @@ public final class QueueDrive {
         }
 
         int open(int slots, int places, int rank, boolean shadowed) {
-            int queue = many;
-            many++;
-            Lane lane = lane(queue);
-            if (lane == null) {
-                many--;
+            if (many < 0 || many >= MOST_QUEUES) {
                 return QUEUES_ARE_FULL;
             }
+            Lane lane = lanes[many];
+            many++;
             lane.slots = slots;
             lane.places = places;
             lane.rank = rank;
             lane.shadowed = shadowed;
-            return queue;
+            return many - 1;
         }
 
         // what BLOCKS hold
@@ -1222,42 +1224,23 @@ public final class QueueDrive {
 
         // sums over QUEUES
 
-        int inRings() {
+        /** One number of each QUEUE (as queue() tells it), added up. */
+        int sum(int what) {
             int sum = 0;
             for (int q = 0; q < many && q < MOST_QUEUES; q++) {
-                sum += lanes[q].inRing();
+                sum += lanes[q].detail(what);
             }
             return sum;
+        }
+
+        int inRings() {
+            return sum(Lane.WRITTEN) - sum(Lane.FETCHED);
         }
 
         int fetchedOfRank(int rank) {
             int sum = 0;
             for (int q = 0; q < many && q < MOST_QUEUES; q++) {
                 sum += lanes[q].rank == rank ? lanes[q].fetched : 0;
-            }
-            return sum;
-        }
-
-        int fetchedInAll() {
-            int sum = 0;
-            for (int q = 0; q < many && q < MOST_QUEUES; q++) {
-                sum += lanes[q].fetched;
-            }
-            return sum;
-        }
-
-        int postedInAll() {
-            int sum = 0;
-            for (int q = 0; q < many && q < MOST_QUEUES; q++) {
-                sum += lanes[q].posted;
-            }
-            return sum;
-        }
-
-        int takenInAll() {
-            int sum = 0;
-            for (int q = 0; q < many && q < MOST_QUEUES; q++) {
-                sum += lanes[q].taken;
             }
             return sum;
         }
@@ -1531,15 +1514,15 @@ public final class QueueDrive {
             if (n < 0 || n > 60) {
                 return NONE;
             }
-            int fetched = fetchedInAll();
-            int posted = postedInAll();
+            int fetched = sum(Lane.FETCHED);
+            int posted = sum(Lane.POSTED);
             int idle = 0;
             for (int i = 0; i < n; i++) {
                 goOn(rule);
                 idle += runs == 0 ? 1 : 0;
             }
-            row.tell(fetchedInAll() - fetched, idle);
-            return postedInAll() - posted;
+            row.tell(sum(Lane.FETCHED) - fetched, idle);
+            return sum(Lane.POSTED) - posted;
         }
 
         /** A TICK. */
@@ -1661,7 +1644,7 @@ public final class QueueDrive {
 
         int listOutbox(Row row) {
             row.clear();
-            for (int i = 0; i < boxed && i < 12; i++) {
+            for (int i = 0; i < boxed && i < Row.LONGEST; i++) {
                 int completion = box[i];
                 row.add(1000 * Completion.queue(completion) + 10 * Completion.id(completion)
                         + Completion.status(completion));

@@ -40,6 +40,10 @@ public final class ModelTest {
                 return false;
             }
         }
+        // now and then all goes slowly, so that rings fill and drains() comes to no end
+        if (leaning[5] == 0 && !(same("9", "rule") && same(null, "depth", 1))) {
+            return false;
+        }
         for (int i = 0; i < LENGTH; i++) {
             if (!one()) {
                 return false;
@@ -72,6 +76,16 @@ public final class ModelTest {
         return upTo(60) == 0 ? about(5) : upTo(many);
     }
 
+    /** A call of a QUEUE and an ID, mostly of a COMMAND that is not TAKEN. */
+    private boolean ofOne(String name) {
+        int queue = queue();
+        if (upTo(4) == 0 || !plain.now.has(queue)) {
+            return same(null, name, queue, about(16));
+        }
+        List<Integer> ids = plain.now.idsInUse(queue);
+        return same(null, name, queue, ids.isEmpty() ? upTo(16) : ids.get(upTo(ids.size())));
+    }
+
     private boolean one() {
         int kind = upTo(60);
         if (kind < 12 + 2 * leaning[0]) {
@@ -86,10 +100,10 @@ public final class ModelTest {
             return same(null, "ticks", upTo(4) == 0 ? about(61) : upTo(3));
         }
         if (kind < 36 + 2 * leaning[4]) {
-            return same(null, "takes", queue());
+            return leaning[6] == 0 && upTo(4) != 0 || same(null, "takes", queue());
         }
         if (kind < 39) {
-            return same(null, "calls", queue(), upTo(3) == 0 ? about(16) : upTo(5));
+            return ofOne("calls");
         }
         return other();
     }
@@ -111,12 +125,12 @@ public final class ModelTest {
             case 12: return same(null, "next");
             case 13: return same(null, "deals", about(61));
             case 14: return same(null, "when", queue(), about(16));
-            case 15: return same(null, "when", queue(), upTo(6));
+            case 15: return ofOne("when");
             case 16: return same(null, "drains");
             case 17: return same(null, "would", about(10));
             case 18: return same(null, "needs", queue());
             case 19: return same(null, "bells");
-            case 20: return same(null, "recall", queue(), upTo(2) == 0 ? about(16) : upTo(5));
+            case 20: return ofOne("recall");
             case 21: return same(null, "served");
             case 22: return same(null, "heard", about(4), upTo(3));
             case 23: return upTo(3) != 0 || same(null, "heard", about(4), about(10));
@@ -132,7 +146,7 @@ public final class ModelTest {
             case 33: return same(null, "queue", queue(), about(13));
             case 34: return same(null, "row", about(12));
             case 35: return upTo(6) != 0 || same(queueText(), "queues");
-            case 36: return same(ruleText(), "rule");
+            case 36: return leaning[5] == 0 && upTo(4) != 0 || same(ruleText(), "rule");
             case 37: return same(null, "sheet", about(4), about(11), random.nextInt(500) - 150, random.nextInt(200) - 50);
             case 38: return same(null, "sheet", about(3), about(11), random.nextInt(), random.nextInt());
             case 39: return same(null, "sign", random.nextInt());
@@ -235,6 +249,15 @@ public final class ModelTest {
             if (drive.count(what) != plain.count(what)) {
                 told.add("  count(" + what + ") = " + drive.count(what) + ", the model: " + plain.count(what));
                 return false;
+            }
+        }
+        for (int q = 0; q < drive.count(0); q++) {
+            for (int what = 0; what < 13; what++) {
+                if (drive.queue(q, what) != plain.queue(q, what)) {
+                    told.add("  queue(" + q + ", " + what + ") = " + drive.queue(q, what) + ", the model: "
+                        + plain.queue(q, what));
+                    return false;
+                }
             }
         }
         return true;
