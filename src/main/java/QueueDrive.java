@@ -628,7 +628,8 @@ public final class QueueDrive {
         // entries of the code: NUMBERS below LETTER, then letters by their place, then signs
         private static final int LETTER = 1000;
         private static final int SIGN = 2000;
-        private static final int NEGATE = '~';
+        // signs are 0 .. 255: no text can tell this one, a minus ahead of a thing
+        private static final int NEGATE = 256;
 
         private final int[] code = new int[LONGEST];
         private int size;
@@ -752,7 +753,7 @@ public final class QueueDrive {
             return true;
         }
 
-        /** How tightly a sign binds; 0: none that stands between things. */
+        /** How tightly a sign that is held, or comes behind a thing, binds; 0: none that binds. */
         private static int strengthOf(int sign) {
             switch (sign) {
                 case '<': return 1;
@@ -1415,7 +1416,10 @@ public final class QueueDrive {
         /** The COMMAND of an ID that is in a ring or RUNNING, or NONE. */
         int commandOf(int queue, int id) {
             Lane lane = lane(queue);
-            int turn = lane == null ? NONE : lane.turnOf(id);
+            if (lane == null) {
+                return NONE;
+            }
+            int turn = lane.turnOf(id);
             if (turn != NONE) {
                 return lane.commandAt(turn);
             }
@@ -1533,7 +1537,7 @@ public final class QueueDrive {
                 lanes[q].lookAtShadow();
             }
             // each round fetches at least one of at most so many COMMANDS
-            for (int i = 0; i < MOST_QUEUES * IDS && runs < atOnce; i++) {
+            for (int i = 0; i < MOST_QUEUES * IDS && runs < atOnce && anyWork(); i++) {
                 fetch(choose(), rule);
             }
             tick++;

@@ -213,8 +213,9 @@ public final class ModelTest {
             case 0: return text.substring(0, at);
             case 1: return at == text.length() ? text : text.substring(0, at) + text.substring(at + 1);
             default:
-                String more = "0123456789-+*/<>=()obvqcdnsuhmlprtkcx \u00ff".substring(upTo(35));
-                String longer = text.substring(0, at) + more.charAt(0) + text.substring(at);
+                String known = "0123456789-+*/<>=()obvqcdnsuhmlprtkcx";
+                char more = upTo(2) == 0 ? (char) upTo(256) : known.charAt(upTo(known.length()));
+                String longer = text.substring(0, at) + more + text.substring(at);
                 return longer.length() > 80 ? longer.substring(0, 80) : longer;
         }
     }
