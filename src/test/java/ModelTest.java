@@ -1,20 +1,32 @@
 import java.util.ArrayList;
+import java.util.Arrays;
 import java.util.List;
 import java.util.Random;
 
-/** Runs of 512 drawn calls on QueueDrive and on PlainDrive: all answers and ROWS are the same. */
+/**
+ * Drawn runs of calls on QueueDrive and on PlainDrive: all answers are the same, and the ROWS and counts where they are
+ * looked at. A look takes calls of the 512, so that in some runs there is one behind each call, in others but now and
+ * then, and in all at the end.
+ */
 public final class ModelTest {
-    private static final int RUNS = 1500;
-    private static final int LENGTH = 512;
+    private static final int RUNS = 6000;
+    // what the longest call with its ROW and the counts behind it take at most
+    private static final int LONGEST_STEP = 50;
+    private static final int LAST_LOOK = 12 + 13 * 5 + 14;
 
     private final Random random;
-    private final QueueDrive drive = new QueueDrive();
+    private final Calls drive = Calls.onNew();
     private final PlainDrive plain = new PlainDrive();
+    private final Calls model = Calls.on(plain);
+    private final int looksAtRow;
+    private final int looksAtCounts;
     private final List<String> told = new ArrayList<>();
     private final int[] leaning = new int[8];
 
     private ModelTest(long seed) {
         random = new Random(seed);
+        looksAtRow = 1 << random.nextInt(6);
+        looksAtCounts = 16 << random.nextInt(5);
         for (int i = 0; i < leaning.length; i++) {
             leaning[i] = random.nextInt(4);
         }
@@ -44,12 +56,12 @@ public final class ModelTest {
         if (leaning[5] == 0 && !(same("9", "rule") && same(null, "depth", 1))) {
             return false;
         }
-        for (int i = 0; i < LENGTH; i++) {
+        while (drive.left() > LONGEST_STEP + LAST_LOOK) {
             if (!one()) {
                 return false;
             }
         }
-        return true;
+        return sameRow() && sameCounts() && sameQueues();
     }
 
     private int upTo(int n) {
@@ -223,13 +235,11 @@ public final class ModelTest {
     /** Whether a call, ahead of it perhaps THE TEXT, answers alike. */
     private boolean same(String text, String name, int... args) {
         if (text != null) {
-            Calls.text(drive, text);
-            Calls.text(plain, text);
+            drive.text(text);
+            model.text(text);
         }
-        String got = Calls.answer(drive, name, args);
-        String due = Calls.answer(plain, name, args);
-        List<String> gotRow = Calls.row(drive);
-        List<String> dueRow = Calls.row(plain);
+        String got = drive.answer(name, args);
+        String due = model.answer(name, args);
         StringBuilder line = new StringBuilder(name);
         for (int arg : args) {
             line.append(' ').append(arg);
@@ -237,29 +247,51 @@ public final class ModelTest {
         if (text != null) {
             line.append(" \"").append(text).append('"');
         }
-        told.add(line + " = " + got + " " + gotRow);
-        boolean alike = got.equals(due) && gotRow.equals(dueRow) && sameCounts();
-        if (!alike) {
-            told.add("  the model: " + due + " " + dueRow);
+        told.add(line + " = " + got);
+        if (!got.equals(due)) {
+            told.add("  the model: " + due);
+            return false;
         }
-        return alike;
+        return (upTo(looksAtRow) > 0 || sameRow()) && (upTo(looksAtCounts) > 0 || sameCounts());
+    }
+
+    private boolean sameRow() {
+        List<String> got = drive.row();
+        List<String> due = model.row();
+        told.add("  the ROW: " + got);
+        if (!got.equals(due)) {
+            told.add("  the model: " + due);
+            return false;
+        }
+        return true;
     }
 
     private boolean sameCounts() {
         for (int what = 0; what < 12; what++) {
-            if (drive.count(what) != plain.count(what)) {
-                told.add("  count(" + what + ") = " + drive.count(what) + ", the model: " + plain.count(what));
+            if (!sameNumber("count", what)) {
                 return false;
             }
         }
-        for (int q = 0; q < drive.count(0); q++) {
+        return true;
+    }
+
+    private boolean sameQueues() {
+        for (int q = 0; q < plain.now.qs.size(); q++) {
             for (int what = 0; what < 13; what++) {
-                if (drive.queue(q, what) != plain.queue(q, what)) {
-                    told.add("  queue(" + q + ", " + what + ") = " + drive.queue(q, what) + ", the model: "
-                        + plain.queue(q, what));
+                if (!sameNumber("queue", q, what)) {
                     return false;
                 }
             }
+        }
+        return true;
+    }
+
+    private boolean sameNumber(String name, int... args) {
+        String got = drive.answer(name, args);
+        String due = model.answer(name, args);
+        if (!got.equals(due)) {
+            told.add("  " + name + Arrays.toString(args) + " = " + got + ", the model: " + due);
+            return false;
         }
         return true;
     }

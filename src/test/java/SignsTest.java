@@ -160,24 +160,26 @@ public final class SignsTest {
             if ((DIGITS + JOINS + COMPARES).indexOf(sign) >= 0) {
                 continue;
             }
-            QueueDrive drive = new QueueDrive();
+            Calls drive = Calls.onNew();
             ask(drive, "queues", "88h");
             ask(drive, "rule", "7");
             ask(drive, "rule", "3" + (char) sign);
-            due(drive.count(11) == 0, "count(11)", "3" + (char) sign, drive.count(11));
+            int left = Integer.parseInt(drive.answer("count", 11));
+            due(left == 0, "count(11)", "3" + (char) sign, left);
             ask(drive, "day", "p00000r0t1");
-            drive.running();
-            due(drive.row(0) == 7, "running()", "3" + (char) sign, (int) drive.row(0));
+            drive.answer("running");
+            int time = Integer.parseInt(drive.answer("row", 0));
+            due(time == 7, "running()", "3" + (char) sign, time);
         }
     }
 
     private static int answer(String reader, String text) {
-        return ask(new QueueDrive(), reader, text);
+        return ask(Calls.onNew(), reader, text);
     }
 
-    private static int ask(QueueDrive drive, String reader, String text) {
-        Calls.text(drive, text);
-        return Integer.parseInt(Calls.answer(drive, reader));
+    private static int ask(Calls drive, String reader, String text) {
+        drive.text(text);
+        return Integer.parseInt(drive.answer(reader));
     }
 
     private void due(boolean alike, String call, String text, int got) {

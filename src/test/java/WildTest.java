@@ -13,7 +13,9 @@ public final class WildTest {
         "recall 2", "served 0", "heard 2", "denies 0", "fits 0", "asks 0", "laps 3", "law 0", "years 2", "keep 1",
         "again 1", "count 1", "row 1",
     };
-    private static final int RUNS = 400;
+    private static final int RUNS = 1200;
+    // a text of 76 signs takes 21 calls
+    private static final int LONGEST_STEP = 24;
     private static final String SIGNS = "0123456789prtkcxuhmls+-*/()<>=obvqcdn";
 
     private WildTest() {
@@ -22,15 +24,15 @@ public final class WildTest {
     public static void main(String[] args) {
         for (int run = 0; run < RUNS; run++) {
             Random random = new Random(run);
-            QueueDrive drive = new QueueDrive();
-            for (int i = 0; i < 512; i++) {
+            Calls drive = Calls.onNew();
+            while (drive.left() > LONGEST_STEP) {
                 oneCall(drive, random);
             }
         }
         System.out.println("nothing was thrown but what is due");
     }
 
-    private static void oneCall(QueueDrive drive, Random random) {
+    private static void oneCall(Calls drive, Random random) {
         String[] call = NAMES[random.nextInt(NAMES.length)].split(" ");
         boolean mayThrow = call[0].equals("queue") || call[0].equals("row");
         int[] args = new int[Integer.parseInt(call[1])];
@@ -40,19 +42,19 @@ public final class WildTest {
         if (random.nextInt(3) == 0) {
             text(drive, random);
         }
-        String answer = Calls.answer(drive, call[0], args);
+        String answer = drive.answer(call[0], args);
         if (answer.equals(Calls.THROWS) && !mayThrow) {
             throw new IllegalStateException(call[0] + " threw");
         }
     }
 
-    private static void text(QueueDrive drive, Random random) {
+    private static void text(Calls drive, Random random) {
         String[] started = {"88h", "22us", "42m", "p01155r0t2k0", "p02000p03000r0t1", "1+", "(o<1)*", "n/d-", ""};
         StringBuilder text = new StringBuilder(started[random.nextInt(started.length)]);
         int more = random.nextInt(4) == 0 ? random.nextInt(60) : 0;
         for (int i = 0; i < more; i++) {
             text.append(random.nextInt(20) == 0 ? (char) random.nextInt(256) : SIGNS.charAt(random.nextInt(SIGNS.length())));
         }
-        Calls.text(drive, text.toString());
+        drive.text(text.toString());
     }
 }
