@@ -14,7 +14,10 @@ public final class RunsTest {
 
     public static void main(String[] args) throws IOException {
         RunsTest test = new RunsTest();
-        List<Script> scripts = Script.allIn("src/test/runs");
+        List<Script> scripts = new ArrayList<>();
+        for (String directory : args.length > 0 ? args : new String[] {"src/test/runs", "src/test/sentences"}) {
+            scripts.addAll(Script.allIn(directory));
+        }
         for (int promise = 1; promise <= PROMISES; promise++) {
             String number = String.format("%02d-", promise);
             if (scripts.stream().noneMatch(s -> s.name().startsWith(number))) {
@@ -22,7 +25,6 @@ public final class RunsTest {
                 System.out.println("no run for promise " + promise);
             }
         }
-        scripts.addAll(Script.allIn("src/test/sentences"));
         int runs = 0;
         for (Script script : scripts) {
             for (Script.Run run : script.runs()) {
