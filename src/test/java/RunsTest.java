@@ -97,6 +97,6 @@ public final class RunsTest {
     private void fault(Script script, Script.Run run, Script.Line line, String what) {
         wrong++;
         System.out.println(script.name() + ":" + line.number() + ": " + line.told() + ": " + what
-            + (run.sentence() == null ? "" : " (" + run.sentence() + ")"));
+            + (run.sentence() == null ? "" : " (" + script.place() + ", \"" + run.sentence() + "\")"));
     }
 }

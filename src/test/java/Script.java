@@ -128,6 +128,16 @@ final class Script {
         return file.getFileName().toString();
     }
 
+    /** Of which part of the document a file of sentences is, as "t1" or "08". */
+    String part() {
+        return name().substring(0, 2);
+    }
+
+    /** The same in words. */
+    String place() {
+        return part().startsWith("t") ? "Terms " + part().substring(1) : "Promise " + Integer.parseInt(part());
+    }
+
     List<Run> runs() {
         return runs;
     }

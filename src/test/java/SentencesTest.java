@@ -80,7 +80,7 @@ public final class SentencesTest {
         Map<String, boolean[]> covered = new LinkedHashMap<>();
         sections.forEach((name, text) -> covered.put(name, new boolean[text.length()]));
         for (Script script : scripts) {
-            String name = script.name().substring(0, 2);
+            String name = script.part();
             String text = sections.getOrDefault(name, "");
             for (String sentence : script.sentences()) {
                 int at = text.indexOf(sentence);
